@@ -656,7 +656,8 @@ public final class PatternTrier {
         private int root;
         private int groups;
         private int openAheads;
-        // How many lookaheads and kept rounds were read: one more behind a part, one is within it.
+        // How many lookaheads and kept rounds were read; if more behind a part than ahead of it,
+        // one stands within it.
         private int kept;
 
         Reader(Tree tree, Bytes source) {
@@ -985,7 +986,7 @@ public final class PatternTrier {
      * walker remembers where it failed.
      */
     private static final class Program {
-        // Of what is heavier than its steps, rounds without bound are the worst: 3 steps for 2.
+        // Rounds without bound make the most steps for their weight: a* makes 3 and weighs 2.
         private static final int STEPS = WEIGHT_LIMIT * 3 / 2 + 8;
 
         private final int[] kind;
@@ -1469,8 +1470,10 @@ public final class PatternTrier {
         }
 
         private boolean setMark(int index) {
-            pile.push(Pile.pack(Pile.UNDO, index, 0, mark(index) + 1));
-            put(marks, index, place);
+            if (mark(index) != place) {
+                pile.push(Pile.pack(Pile.UNDO, index, 0, mark(index) + 1));
+                put(marks, index, place);
+            }
             return pass();
         }
 
