@@ -224,6 +224,8 @@ public final class Promise04PatternTest {
         broken("(?=(?=a))", 3);
         broken("(?=a(?!b))", 4);
         broken("(?!(?:(?=a)))", 6);
+        broken("(?=a)(?=(?=b))", 8);
+        broken("(?!a)(?!b)(?=c++)", 15);
         broken("(?=a++)", 5);
         broken("(?!(a*+))", 6);
         broken("(?=a)(?:b(?!c))++", 16);

@@ -99,6 +99,16 @@ public final class Promise10ReplaceTest {
         Check.due("the place", () -> x.count(1), -1);
         Check.due("by groups", () -> Check.replace(x, 0, 0, Check.times("$0", 600)), Check.STATE);
         Check.due("a long tape for nothing", () -> Check.replace(x, 0, 3, Check.times("x", 1200)), 0);
+        comesTo("a", Check.times("x", 1001), Check.STATE);
+        comesTo("a", Check.times("x", 1200), Check.STATE);
+        comesTo("aa", Check.times("x", 500), "1000");
+        comesTo("aa", Check.times("x", 501), Check.STATE);
+        comesTo("aa", Check.times("$$", 500), "1000");
+        comesTo("aa", Check.times("$$", 501), Check.STATE);
+        comesTo("aa", Check.times("$0", 500), "1000");
+        comesTo("aa", Check.times("$0", 501), Check.STATE);
+        comesTo("ab", Check.times("x", 999), "1000");
+        comesTo("ab", Check.times("x", 1000), Check.STATE);
         PatternTrier y = Check.trier(".*", Check.times("a", 300));
         Check.due("900 bytes", () -> Check.replace(y, 0, 0, "$0$0$0"), 900);
         Check.text(y, 0, Check.times("a", 300));
@@ -106,6 +116,14 @@ public final class Promise10ReplaceTest {
         PatternTrier z = Check.trier("", Check.times("a", 300));
         Check.due("902 bytes", () -> Check.replace(z, 0, 0, "xy"), 902);
         Check.due("found of them", () -> z.count(2), 301);
+    }
+
+    private static void comesTo(String text, String model, String want) {
+        PatternTrier x = Check.trier("a", text);
+        Check.due("replace in " + text + " by " + model, () -> Check.replace(x, 0, 0, model), want);
+        boolean tooLong = want.equals(Check.STATE);
+        Check.due("size after " + model, () -> x.count(20), tooLong ? text.length() : 1000);
+        Check.due("found after " + model, () -> x.count(2), tooLong ? 0 : text.replace("b", "").length());
     }
 
     private static void order() {
