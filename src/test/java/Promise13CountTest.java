@@ -48,6 +48,23 @@ public final class Promise13CountTest {
         Check.answer(() -> Check.pattern(x, 1, "a("));
         Check.answer(() -> Check.pattern(x, 8, "a("));
         Check.due("out of range is not broken", () -> x.count(1), -1);
+        replacesThatAreNotBroken();
+    }
+
+    /** A replace that throws another exception was not broken, either. */
+    private static void replacesThatAreNotBroken() {
+        PatternTrier x = Check.trier("a", "a");
+        Check.text(x, 1, Check.times("a", 301));
+        String[] throwing = {Check.ARGUMENT, Check.NO_SUCH, Check.BOUNDS, Check.STATE};
+        int[][] numbers = {{8, 0}, {1, 0}, {0, 1}, {0, 0}};
+        for (int i = 0; i < throwing.length; i++) {
+            int p = numbers[i][0];
+            int t = numbers[i][1];
+            Check.answer(() -> Check.pattern(x, 2, "ab("));
+            Check.due("broken", () -> x.count(1), 3);
+            Check.due("replace", () -> Check.replace(x, p, t, Check.times("x", 1100)), throwing[i]);
+            Check.due("not broken by " + throwing[i], () -> x.count(1), -1);
+        }
     }
 
     private static void patternsAndTexts() {
