@@ -1222,6 +1222,9 @@ public final class PatternTrier {
     /** What the walker has to come back to, last first; it grows when a walk needs it. */
     private static final class Pile {
         private static final int START = 1 << 11;
+        // No walk comes near this: a step is passed once for each byte at most, as each round
+        // without bound takes one, and leaves one entry; so 400 of weight leave 400 * 1001, and a
+        // walk apart upon them as many again.
         private static final int LIMIT = 1 << 20;
         private static final int CHOICE = 0;
         private static final int FAILED = 1;
@@ -1281,12 +1284,18 @@ public final class PatternTrier {
             return cell(entries, size);
         }
 
-        /** Forgets the ways above a height, but not how the marks were. */
+        /**
+         * Forgets the ways above a height, but not how the marks were there: the lowest entry of a
+         * mark tells it. The others go, as a walk apart over a long text leaves many of them.
+         */
         void dropWays(int height) {
             int kept = height;
+            int seen = 0;
             for (int k = height; k < size; k++) {
                 int entry = cell(entries, k);
-                if (kindOf(entry) == UNDO) {
+                int index = stepOf(entry);
+                if (kindOf(entry) == UNDO && (seen >>> index & 1) == 0) {
+                    seen |= 1 << index;
                     put(entries, kept, entry);
                     kept++;
                 }

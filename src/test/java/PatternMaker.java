@@ -22,6 +22,31 @@ final class PatternMaker {
         return ways(0, false, 3 + next(3));
     }
 
+    /** A random pattern within rounds that can pass over any text, and one behind them. */
+    PlainMatcher.Part makeRounds() {
+        groups = 0;
+        onlyHere = false;
+        PlainMatcher.Part round = ways(1, false, 3);
+        round.rows.add(List.of(set(".")));
+        round.told = "(?:" + round.told + "|.)";
+        round.weight += 3;
+        PlainMatcher.Part rounds = new PlainMatcher.Part();
+        rounds.kind = '*';
+        rounds.inner = round;
+        rounds.most = -1;
+        rounds.told = round.told + "*";
+        rounds.weight = round.weight + 1;
+        PlainMatcher.Part behind = ways(1, false, 2);
+        behind.told = "(?:" + behind.told + ")";
+        behind.weight++;
+        PlainMatcher.Part root = new PlainMatcher.Part();
+        root.kind = ':';
+        root.rows.add(List.of(rounds, behind));
+        root.told = rounds.told + behind.told;
+        root.weight = rounds.weight + behind.weight;
+        return root;
+    }
+
     int groups() {
         return groups;
     }
@@ -146,9 +171,13 @@ final class PatternMaker {
     }
 
     private PlainMatcher.Part set() {
+        return set(SETS[next(next(3) == 0 ? SETS.length : 5)]);
+    }
+
+    private static PlainMatcher.Part set(String told) {
         PlainMatcher.Part part = new PlainMatcher.Part();
         part.kind = 's';
-        part.told = SETS[next(next(3) == 0 ? SETS.length : 5)];
+        part.told = told;
         part.told2 = part.told.equals("}") || part.told.equals("]") ? "\\" + part.told : part.told;
         part.set = new boolean[256];
         for (int b = 0; b < 256; b++) {

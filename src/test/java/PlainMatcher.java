@@ -54,6 +54,17 @@ final class PlainMatcher {
         return end[0];
     }
 
+    /** The groups of the latest match, in the form of Check.groups. */
+    String told(int begin, int end, int groups) {
+        StringBuilder all = new StringBuilder();
+        all.append(begin).append('-').append(end);
+        for (int i = 1; i <= groups; i++) {
+            boolean none = marks[2 * i] == -1 && marks[2 * i + 1] == -1;
+            all.append(' ').append(none ? "." : marks[2 * i] + "-" + marks[2 * i + 1]);
+        }
+        return all.toString();
+    }
+
     private boolean ways(Part part, int place, Behind behind) {
         for (List<Part> row : part.rows) {
             if (row(row, 0, place, behind)) {

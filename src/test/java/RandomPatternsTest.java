@@ -68,13 +68,7 @@ public final class RandomPatternsTest {
         if (end < 0) {
             return;
         }
-        StringBuilder want = new StringBuilder();
-        want.append(begin).append('-').append(end);
-        for (int i = 1; i <= groups; i++) {
-            String one = matcher.marks[2 * i] + "-" + matcher.marks[2 * i + 1];
-            want.append(' ').append(one.equals("-1--1") ? "." : one);
-        }
-        Check.same("groups " + name, Check.groups(x, groups), want.toString());
+        Check.same("groups " + name, Check.groups(x, groups), matcher.told(begin, end, groups));
     }
 
     private static void replace(PatternTrier x, PlainMatcher.Part root, String text, PlainMatcher matcher) {
