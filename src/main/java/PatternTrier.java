@@ -982,8 +982,7 @@ public final class PatternTrier {
 
     /**
      * The steps of a pattern. Step 0 is its end. A step that can fail after others were tried has
-     * slots, one for each number of rounds around it that may have taken a byte, by which the
-     * walker remembers where it failed.
+     * a slot, by which the walker remembers where it failed.
      */
     private static final class Program {
         // Rounds without bound make the most steps for their weight: a* makes 3 and weighs 2.
@@ -1035,7 +1034,7 @@ public final class PatternTrier {
             put(depth, step, newDepth);
             put(slot, step, slots);
             if (newKind == SPLIT || newKind == KEEP || newKind == AHEAD || newKind == NOT_AHEAD) {
-                slots += newDepth + 1;
+                slots++;
             }
             return step;
         }
@@ -1304,36 +1303,48 @@ public final class PatternTrier {
         }
     }
 
-    /** Where steps have failed, a bit for each slot and place. */
+    /**
+     * Where steps have failed: for each slot and place four bits with one more than the most rounds
+     * that had taken a byte then. With fewer the step fails there too, as each way that is open
+     * with fewer is open with more.
+     */
     private static final class Failures {
         private static final int START = 1 << 10;
-        private static final int LIMIT = 1 << 18;
+        private static final int LIMIT = 1 << 16;
 
-        private int[] bits;
+        private int[] cells;
 
         Failures() {
-            bits = new int[START];
+            cells = new int[START];
         }
 
         void clear(int amount) {
-            int cells = Math.min(LIMIT, Math.max(0, (amount >>> 5) + 1));
-            if (cells <= bits.length) {
-                Arrays.fill(bits, 0, cells, 0);
+            int used = Math.min(LIMIT, Math.max(0, (amount >>> 3) + 1));
+            if (used <= cells.length) {
+                Arrays.fill(cells, 0, used, 0);
                 return;
             }
-            int length = bits.length;
-            for (int k = 0; k < 20 && length < cells; k++) {
+            int length = cells.length;
+            for (int k = 0; k < 20 && length < used; k++) {
                 length *= 2;
             }
-            bits = new int[length];
+            cells = new int[length];
         }
 
-        boolean has(int key) {
-            return (cell(bits, key >>> 5) >>> (key & 31) & 1) != 0;
+        boolean has(int key, int taken) {
+            return at(key) > taken;
         }
 
-        void add(int key) {
-            put(bits, key >>> 5, cell(bits, key >>> 5) | 1 << (key & 31));
+        void add(int key, int taken) {
+            if (at(key) <= taken) {
+                int shift = 4 * (key & 7);
+                int others = cell(cells, key >>> 3) & ~(15 << shift);
+                put(cells, key >>> 3, others | (taken + 1 & 15) << shift);
+            }
+        }
+
+        private int at(int key) {
+            return cell(cells, key >>> 3) >>> 4 * (key & 7) & 15;
         }
     }
 
@@ -1463,7 +1474,7 @@ public final class PatternTrier {
         }
 
         private boolean chooseFirst() {
-            if (failures.has(key(step, taken, place))) {
+            if (failures.has(key(step, place), taken)) {
                 return false;
             }
             pile.push(Pile.pack(Pile.CHOICE, step, taken, place));
@@ -1494,13 +1505,13 @@ public final class PatternTrier {
             return isLetter(b) || isDigit(b) || b == '_';
         }
 
-        private int key(int atStep, int withTaken, int atPlace) {
-            return (program.slotOf(atStep) + withTaken) * (text.size() + 1) + atPlace;
+        private int key(int atStep, int atPlace) {
+            return program.slotOf(atStep) * (text.size() + 1) + atPlace;
         }
 
         /** A lookahead or kept rounds: its first way alone counts. */
         private boolean walkApart(int level) {
-            if (level > 0 || failures.has(key(step, taken, place))) {
+            if (level > 0 || failures.has(key(step, place), taken)) {
                 return false;
             }
             int from = step;
@@ -1531,7 +1542,7 @@ public final class PatternTrier {
                 if (Pile.kindOf(entry) == Pile.UNDO) {
                     put(marks, atStep, atPlace - 1);
                 } else if (Pile.kindOf(entry) == Pile.FAILED) {
-                    failures.add(key(atStep, withTaken, atPlace));
+                    failures.add(key(atStep, atPlace), withTaken);
                 } else {
                     pile.push(Pile.pack(Pile.FAILED, atStep, withTaken, atPlace));
                     step = program.otherOf(atStep);

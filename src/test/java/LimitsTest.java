@@ -43,7 +43,9 @@ public final class LimitsTest {
         is("(?:(?:" + Check.times("a|", 90) + "z){1})*", text, 0, 1000);
         is("(?:(?:" + Check.times("(?=)", 19) + "){19}z)*", text, 0, 1000);
         is("(?:(?:" + Check.times("(?=)", 19) + "){19}z)*zz", text, 0, 1000);
-        is("(?:(?=(?:(?:a?){20}(?:b?){20}(?:c?){20}(?:d?){20}z)*)z)*z", text, 0, 1000);
+        String ahead = "(?=(?:(?:a?){20}(?:b?){20}(?:c?){20}(?:d?){20}z)*)z";
+        is("(?:" + ahead + ")*z", text, 0, 1000);
+        is(Check.times("(?:", 7) + ahead + Check.times(")*", 7) + "y", text, 2, -1);
     }
 
     private static void manyMarks() {
