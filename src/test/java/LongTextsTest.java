@@ -5,8 +5,9 @@
 public final class LongTextsTest {
     private static final int ROUNDS = 3000;
     private static final int BUDGET = 300000;
-    private static final long STACK = 1L << 30;
+    private static final long STACK = 1L << 27;
     private static final String EIGHT = "((((((((a))))))))";
+    private static int compared = 0;
 
     public static void main(String[] args) throws InterruptedException {
         groupsAhead();
@@ -16,6 +17,7 @@ public final class LongTextsTest {
         Thread thread = new Thread(null, LongTextsTest::compareWithPlain, "plain", STACK);
         thread.start();
         thread.join();
+        Check.same(compared + " compared, enough", "" + (compared > ROUNDS / 2), "true");
         Check.finish();
     }
 
@@ -71,7 +73,6 @@ public final class LongTextsTest {
     private static void compareWithPlain() {
         PatternMaker maker = new PatternMaker(20261116L);
         PatternTrier x = new PatternTrier();
-        int compared = 0;
         for (int i = 0; i < ROUNDS; i++) {
             PlainMatcher.Part root = maker.makeRounds();
             String text = (maker.text(12) + "a").repeat(1000).substring(0, 900 + maker.next(101));
@@ -81,7 +82,6 @@ public final class LongTextsTest {
                 compared += compare(x, root, text, i % 2, maker.groups()) ? 1 : 0;
             }
         }
-        Check.same(compared + " compared, enough", "" + (compared > ROUNDS / 3), "true");
     }
 
     private static boolean compare(PatternTrier x, PlainMatcher.Part root, String text, int how, int groups) {
