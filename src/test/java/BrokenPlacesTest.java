@@ -12,8 +12,8 @@ public final class BrokenPlacesTest {
 
     public static void main(String[] args) {
         PatternMaker maker = new PatternMaker(4L);
-        PatternTrier x = new PatternTrier();
         for (int i = 0; i < 40000; i++) {
+            PatternTrier x = new PatternTrier();
             StringBuilder pattern = new StringBuilder();
             int length = 1 + maker.next(10);
             for (int k = 0; k < length; k++) {

@@ -93,6 +93,24 @@ final class Check {
         return bytes.toString();
     }
 
+    /** All bytes of the tape, which is empty then; TEXT 3 is it, too. */
+    static String takenTape(PatternTrier x) {
+        x.text(3);
+        return bytes(x, 3);
+    }
+
+    /** All that the face tells of the state without a change, but of the tape and the place. */
+    static String state(PatternTrier x) {
+        StringBuilder all = new StringBuilder();
+        for (int p = 0; p < 8; p++) {
+            all.append(x.count(10 + p)).append('/').append(x.count(30 + p)).append(' ');
+        }
+        for (int t = 0; t < 4; t++) {
+            all.append('"').append(bytes(x, t)).append("\" ");
+        }
+        return all.append(groups(x, 9)).append(" found ").append(found(x)).toString();
+    }
+
     /** All GROUPS up to the one given, as "begin-end", with . for none. */
     static String groups(PatternTrier x, int last) {
         StringBuilder all = new StringBuilder();
@@ -112,7 +130,8 @@ final class Check {
     /** All that is FOUND, as "begin-end". */
     static String found(PatternTrier x) {
         StringBuilder all = new StringBuilder();
-        for (int i = 0; i < x.count(2); i++) {
+        int amount = x.count(2);
+        for (int i = 0; i < amount; i++) {
             all.append(i == 0 ? "" : " ").append(x.found(i, 0)).append('-').append(x.found(i, 1));
         }
         return all.toString();

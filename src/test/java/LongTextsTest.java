@@ -72,8 +72,9 @@ public final class LongTextsTest {
 
     private static void compareWithPlain() {
         PatternMaker maker = new PatternMaker(20261116L);
-        PatternTrier x = new PatternTrier();
         for (int i = 0; i < ROUNDS; i++) {
+            // What an object answers beyond its 512th call is free.
+            PatternTrier x = new PatternTrier();
             PlainMatcher.Part root = maker.makeRounds();
             String text = (maker.text(12) + "a").repeat(1000).substring(0, 900 + maker.next(101));
             if (root.told.length() <= 200 && root.weight <= 400) {

@@ -18,6 +18,7 @@ public final class Promise06MatchTest {
         ahead();
         toTheEnd();
         places();
+        placesUpToTheSize();
         wrongNumbers();
         Check.finish();
     }
@@ -270,6 +271,24 @@ public final class Promise06MatchTest {
         is("a", text, AT, 999, 1000);
         is("", text, AT, 1000, 1000);
         is(".*", text, WHOLE, 0, 1000);
+    }
+
+    /** "a 0 .. size, else IndexOutOfBoundsException; with 0 it does not matter". */
+    private static void placesUpToTheSize() {
+        for (int size : new int[] {0, 1, 2, 999, 1000}) {
+            PatternTrier x = Check.trier("", Check.times("a", size));
+            Check.pattern(x, 1, "a*");
+            for (int a : new int[] {0, size}) {
+                Check.due("at " + a + " of " + size, () -> x.match(0, 0, 1, a), a);
+                Check.due("from " + a + " of " + size, () -> x.match(0, 0, 2, a), a);
+            }
+            for (int a : new int[] {Integer.MIN_VALUE, -1, size + 1, Integer.MAX_VALUE}) {
+                Check.due("at " + a + " of " + size, () -> x.match(0, 0, 1, a), Check.BOUNDS);
+                Check.due("from " + a + " of " + size, () -> x.match(0, 0, 2, a), Check.BOUNDS);
+                Check.due("to the end with " + a, () -> x.match(1, 0, 0, a), size);
+                Check.same("its groups", Check.groups(x, 0), "0-" + size);
+            }
+        }
     }
 
     private static void wrongNumbers() {

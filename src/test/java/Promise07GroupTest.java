@@ -119,5 +119,13 @@ public final class Promise07GroupTest {
         Check.due("group i 10", () -> x.group(10, 0), Check.ARGUMENT);
         Check.due("group part 2", () -> x.group(0, 2), Check.ARGUMENT);
         Check.due("group 9", () -> x.group(9, 1), -1);
+        Check.due("i before part", () -> x.group(10, 2), Check.ARGUMENT);
+        Check.pattern(x, 1, "((((((((()))))))))a");
+        x.match(1, 0, 0, 0);
+        for (int k = 1; k <= 9; k++) {
+            int i = k;
+            Check.due("begin of GROUP " + i, () -> x.group(i, 0), 0);
+            Check.due("end of GROUP " + i, () -> x.group(i, 1), 0);
+        }
     }
 }

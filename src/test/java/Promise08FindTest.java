@@ -36,6 +36,13 @@ public final class Promise08FindTest {
     }
 
     private static void limits() {
+        for (int size : new int[] {0, 1, 299, 300}) {
+            PatternTrier y = Check.trier("a|", Check.times("a", size));
+            Check.due("find in " + size, () -> y.find(0, 0), size + 1);
+            Check.due("the last begin in " + size, () -> y.found(size, 0), size);
+            Check.due("the last end in " + size, () -> y.found(size, 1), size);
+            Check.due("one more in " + size, () -> y.found(size + 1, 0), Check.BOUNDS);
+        }
         PatternTrier x = Check.trier("", Check.times("ab", 150));
         Check.due("300 bytes", () -> x.find(0, 0), 301);
         Check.due("the last one", () -> x.found(300, 1), 300);

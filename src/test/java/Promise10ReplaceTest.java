@@ -4,6 +4,7 @@ public final class Promise10ReplaceTest {
         ordinary();
         groups();
         brokenModels();
+        eachByteBehindTheSign();
         tooLong();
         order();
         whatItLeaves();
@@ -53,6 +54,20 @@ public final class Promise10ReplaceTest {
         is("a(?=(.))", "abac", "<$1>", "<b>b<c>c");
         // A group of one match is not one of the next.
         is("(a)|b", "ab", "<$1>", "<a><>");
+    }
+
+    /** "$ and a digit is that GROUP (nothing if none) and $$ $": no other byte behind $. */
+    private static void eachByteBehindTheSign() {
+        for (int b = 0; b < 256; b++) {
+            String model = "x$" + (char) b + "y";
+            if (b == '$') {
+                is("(a)(b)?", "ca", model, "cx$y");
+            } else if (b >= '0' && b <= '9') {
+                is("(a)(b)?", "ca", model, b <= '1' ? "cxay" : "cxy");
+            } else {
+                broken("(a)(b)?", "ca", model, 2);
+            }
+        }
     }
 
     private static void broken(String pattern, String text, String model, int place) {

@@ -25,6 +25,25 @@ public final class Promise12WordTest {
             Check.due("t " + t, () -> x.word(t, 0), Check.ARGUMENT);
             Check.due("t before i " + t, () -> x.word(t, -1), Check.ARGUMENT);
         }
+        eachPlaceOfEachSize();
         Check.finish();
+    }
+
+    /** "zeros behind its end; i is none of its bytes: IndexOutOfBoundsException". */
+    private static void eachPlaceOfEachSize() {
+        for (int size = 0; size <= 20; size++) {
+            PatternTrier x = new PatternTrier();
+            Check.text(x, 1, Check.times("\u00ff", 20));
+            Check.text(x, 1, "\u00f0\u00f1\u00f2\u00f3\u00f4\u00f5\u00f6\u00f7\u00f8\u00f9".repeat(2).substring(0, size));
+            for (int k = -2; k <= 22; k++) {
+                int i = k;
+                long want = 0;
+                for (int b = 0; b < 8; b++) {
+                    want = want << 8 | (i + b < size ? 0xF0 + (i + b) % 10 : 0);
+                }
+                boolean is = i >= 0 && i < size;
+                Check.due("word " + i + " of " + size, () -> x.word(1, i), is ? Long.toString(want) : Check.BOUNDS);
+            }
+        }
     }
 }

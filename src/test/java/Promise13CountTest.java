@@ -89,6 +89,14 @@ public final class Promise13CountTest {
     }
 
     private static void wrongNumbers() {
+        PatternTrier all = new PatternTrier();
+        for (int n = -10; n < 100; n++) {
+            int what = n;
+            boolean isPattern = what >= 10 && what <= 17 || what >= 30 && what <= 37;
+            boolean isTaken = what >= 0 && what <= 2 || what >= 20 && what <= 23 || isPattern;
+            String none = isPattern || what == 1 ? "-1" : "0";
+            Check.due("count " + what, () -> all.count(what), isTaken ? none : Check.ARGUMENT);
+        }
         PatternTrier x = new PatternTrier();
         for (int n : new int[] {-1, 3, 4, 9, 18, 19, 24, 29, 38, 39, 40, 100,
             Integer.MIN_VALUE, Integer.MAX_VALUE}) {
