@@ -1221,9 +1221,9 @@ public final class PatternTrier {
     /** What the walker has to come back to, last first; it grows when a walk needs it. */
     private static final class Pile {
         private static final int START = 1 << 11;
-        // No walk comes near this: a step is passed once for each byte at most, as each round
-        // without bound takes one, and leaves one entry; so 400 of weight leave 400 * 1001, and a
-        // walk apart upon them as many again.
+        // No walk comes so high: as each round without bound takes a byte, a step is passed twice
+        // at a place at most, on the way out of the rounds that took one and on the way into the
+        // next, and leaves one entry; 400 of weight, walks apart too, leave 2 * 400 * 1001.
         private static final int LIMIT = 1 << 20;
         private static final int CHOICE = 0;
         private static final int FAILED = 1;

@@ -47,6 +47,111 @@ final class PatternMaker {
         return root;
     }
 
+    /** Rounds within rounds that can take nothing, alone or looked ahead for at each byte. */
+    PlainMatcher.Part makeNested() {
+        groups = 0;
+        onlyHere = true;
+        PlainMatcher.Part nested = nestedWays(0);
+        int kind = next(3);
+        if (kind == 0) {
+            return nested;
+        }
+        PlainMatcher.Part root = new PlainMatcher.Part();
+        root.kind = ':';
+        if (kind == 1) {
+            nested.kind = '=';
+            PlainMatcher.Part round = new PlainMatcher.Part();
+            round.kind = ':';
+            round.rows.add(List.of(nested, set(".")));
+            round.told = "(?:(?=" + nested.told + ").)";
+            round.weight = nested.weight + 3;
+            root.rows.add(List.of(signed(round, "*")));
+            root.told = round.told + "*";
+            root.weight = round.weight + 1;
+            return root;
+        }
+        root.rows.add(List.of(nested));
+        root.rows.add(List.of(set(".")));
+        nested.told = "(?:" + nested.told + ")";
+        root.told = nested.told + "|.";
+        root.weight = nested.weight + 3;
+        return root;
+    }
+
+    private PlainMatcher.Part nestedWays(int level) {
+        PlainMatcher.Part part = new PlainMatcher.Part();
+        part.kind = ':';
+        int rows = next(5) == 0 ? 2 : 1;
+        for (int i = 0; i < rows; i++) {
+            part.told += i == 0 ? "" : "|";
+            part.weight += i == 0 ? 0 : 1;
+            List<PlainMatcher.Part> row = new ArrayList<>();
+            int length = 1 + next(3);
+            for (int k = 0; k < length; k++) {
+                PlainMatcher.Part item = level < 4 && next(3) == 0 ? nestedRounds(level) : maybeNothing();
+                row.add(item);
+                part.told += item.told;
+                part.weight += item.weight;
+            }
+            part.rows.add(row);
+        }
+        return part;
+    }
+
+    private PlainMatcher.Part nestedRounds(int level) {
+        boolean isGroup = groups < 9 && next(2) == 0;
+        groups += isGroup ? 1 : 0;
+        int number = groups;
+        PlainMatcher.Part part = nestedWays(level + 1);
+        part.kind = isGroup ? '(' : ':';
+        part.number = number;
+        part.told = (isGroup ? "(" : "(?:") + part.told + ")";
+        part.weight += isGroup ? 2 : 1;
+        return signed(part, new String[] {"*", "*", "*?", "+", "{2,}", "?"}[next(6)]);
+    }
+
+    private PlainMatcher.Part maybeNothing() {
+        switch (next(9)) {
+            case 0: return set("a");
+            case 1: return set("b");
+            case 2: return signed(set("a"), "?");
+            case 3: return signed(set("b"), "?");
+            case 4: return signed(set("a"), "??");
+            case 5: return signed(set("a"), "*");
+            case 6: return choice("ab", "");
+            case 7: return choice("", "a");
+            default: return choice("ba", "a", "");
+        }
+    }
+
+    private static PlainMatcher.Part choice(String... rows) {
+        PlainMatcher.Part part = new PlainMatcher.Part();
+        part.kind = ':';
+        part.told = "(?:" + String.join("|", rows) + ")";
+        part.weight = rows.length;
+        for (String bytes : rows) {
+            List<PlainMatcher.Part> row = new ArrayList<>();
+            for (int i = 0; i < bytes.length(); i++) {
+                row.add(set(bytes.substring(i, i + 1)));
+                part.weight++;
+            }
+            part.rows.add(row);
+        }
+        return part;
+    }
+
+    private static PlainMatcher.Part signed(PlainMatcher.Part inner, String sign) {
+        PlainMatcher.Part part = new PlainMatcher.Part();
+        part.kind = '*';
+        part.inner = inner;
+        part.least = sign.startsWith("+") ? 1 : sign.startsWith("{2") ? 2 : 0;
+        part.most = sign.startsWith("?") ? 1 : -1;
+        part.manner = sign.length() == 2 ? '?' : ' ';
+        part.told = inner.told + sign;
+        part.weight = (part.least + 1) * inner.weight + 1;
+        return part;
+    }
+
     int groups() {
         return groups;
     }

@@ -5,6 +5,8 @@ import java.util.regex.Pattern;
 public final class RandomPatternsTest {
     private static final int ROUNDS = 60000;
     private static final int BUDGET = 20000;
+    private static final int NESTED = 20000;
+    private static final int NESTED_BUDGET = 100000;
     private static int plain = 0;
     private static int java = 0;
 
@@ -13,15 +15,17 @@ public final class RandomPatternsTest {
         for (int i = 0; i < ROUNDS; i += 2) {
             // Two, so that rows are used again; what an object answers beyond its 512th call is free.
             PatternTrier x = new PatternTrier();
-            tryOne(x, maker);
-            tryOne(x, maker);
+            tryOne(x, maker, maker.make(), BUDGET);
+            tryOne(x, maker, maker.make(), BUDGET);
         }
-        Check.same("enough were compared", "" + (plain > ROUNDS / 2 && java > ROUNDS / 10), "true");
+        for (int i = 0; i < NESTED; i++) {
+            tryOne(new PatternTrier(), maker, maker.makeNested(), NESTED_BUDGET);
+        }
+        Check.same("enough were compared", "" + (plain > (ROUNDS + NESTED) / 2 && java > ROUNDS / 10), "true");
         Check.finish();
     }
 
-    private static void tryOne(PatternTrier x, PatternMaker maker) {
-        PlainMatcher.Part root = maker.make();
+    private static void tryOne(PatternTrier x, PatternMaker maker, PlainMatcher.Part root, int budget) {
         int groups = maker.groups();
         boolean onlyHere = maker.onlyHere();
         String pattern = root.told;
@@ -37,7 +41,7 @@ public final class RandomPatternsTest {
         String text = maker.text(12);
         Check.text(x, 0, text);
         try {
-            compareWithPlain(x, root, text, groups, maker);
+            compareWithPlain(x, root, text, groups, maker, budget);
             plain++;
         } catch (PlainMatcher.TooLong e) {
             return;
@@ -49,25 +53,25 @@ public final class RandomPatternsTest {
     }
 
     private static void compareWithPlain(PatternTrier x, PlainMatcher.Part root, String text, int groups,
-            PatternMaker maker) {
+            PatternMaker maker, int budget) {
         String name = root.told + " on " + text;
         PlainMatcher matcher = new PlainMatcher(text);
-        int whole = matcher.end(root, 0, true, BUDGET);
+        int whole = matcher.end(root, 0, true, budget);
         Check.due("whole " + name, () -> x.match(0, 0, 0, 0), whole);
         sameGroups(x, name, matcher, 0, whole, groups);
         int place = maker.next(text.length() + 1);
-        int end = matcher.end(root, place, false, BUDGET);
+        int end = matcher.end(root, place, false, budget);
         Check.due("at " + place + " " + name, () -> x.match(0, 0, 1, place), end);
         sameGroups(x, name, matcher, place, end, groups);
         int first = place;
         while (end < 0 && first < text.length()) {
             first++;
-            end = matcher.end(root, first, false, BUDGET);
+            end = matcher.end(root, first, false, budget);
         }
         int firstEnd = end;
         Check.due("from " + place + " " + name, () -> x.match(0, 0, 2, place), firstEnd);
         sameGroups(x, name, matcher, first, end, groups);
-        replace(x, root, text, matcher);
+        replace(x, root, text, matcher, budget);
     }
 
     private static void sameGroups(PatternTrier x, String name, PlainMatcher matcher, int begin, int end, int groups) {
@@ -77,12 +81,13 @@ public final class RandomPatternsTest {
         Check.same("groups " + name, Check.groups(x, groups), matcher.told(begin, end, groups));
     }
 
-    private static void replace(PatternTrier x, PlainMatcher.Part root, String text, PlainMatcher matcher) {
+    private static void replace(PatternTrier x, PlainMatcher.Part root, String text, PlainMatcher matcher,
+            int budget) {
         StringBuilder found = new StringBuilder();
         StringBuilder want = new StringBuilder();
         int copied = 0;
         for (int place = 0; place <= text.length();) {
-            int end = matcher.end(root, place, false, BUDGET);
+            int end = matcher.end(root, place, false, budget);
             if (end < 0) {
                 place++;
                 continue;
