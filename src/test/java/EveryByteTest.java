@@ -162,6 +162,8 @@ public final class EveryByteTest {
         takes("[a-]", 1, b -> b == 'a' || b == '-');
         takes("[^a-]", 1, b -> b != 'a' && b != '-');
         takes("[^-a]", 1, b -> b != '-' && b != 'a');
+        takes("[--]", 1, b -> b == '-');
+        takes("[^--]", 1, b -> b != '-');
         takes("[ -]", 1, b -> b == ' ' || b == '-');
         takes("[!^-a]", 1, b -> b == '!' || b >= '^' && b <= 'a');
         takes("[!-\\d]", 1, b -> b == '!' || b == '-' || isDigit(b));

@@ -14,6 +14,7 @@ public final class Promise04PatternTest {
         numbersOutOfRange();
         brokenOnesChangeNothing();
         eachPatternIsItsOwn();
+        manyOneAfterAnother();
         Check.finish();
     }
 
@@ -349,6 +350,18 @@ public final class Promise04PatternTest {
             Check.due("weight of " + p, () -> x.count(10 + p), 3 * (p + 1));
             Check.due("groups of " + p, () -> x.count(30 + p), p + 1);
             Check.due("match of " + p, () -> x.match(p, 0, 2, 0), p == 0 ? 1 : p == 1 ? 4 : -1);
+        }
+    }
+
+    /** What patterns before it had is not in the way of the next one. */
+    private static void manyOneAfterAnother() {
+        PatternTrier x = new PatternTrier();
+        Check.text(x, 0, Check.times("a", 59) + "b");
+        for (int i = 0; i < 35; i++) {
+            String last = i % 2 == 0 ? "[b]" : "[^b]";
+            Check.due("pattern " + i, () -> Check.pattern(x, 0, Check.times(".", 59) + last), 60);
+            Check.due("match " + i, () -> x.match(0, 0, 0, 0), last.equals("[b]") ? 60 : -1);
+            Check.answer(() -> Check.pattern(x, 1, Check.times("[ab]", 9) + "("));
         }
     }
 }
